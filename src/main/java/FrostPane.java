@@ -87,7 +87,9 @@ public final class FrostPane {
 
     public int grow(int generations) throws IllegalArgumentException {
         requireWithin(generations, 1, LONGEST_GROWTH);
-        stepTimes(now, breath, generations);
+        for (int passed = 0; passed < generations; passed++) {
+            now.step(book.freezesBy(breath), book.staysBy(breath));
+        }
         generation += generations;
         return now.countFrost();
     }
@@ -141,8 +143,7 @@ public final class FrostPane {
 
     public boolean willFreeze(int column, int row) throws IndexOutOfBoundsException {
         requireCell(column, row);
-        int around = now.countAround(column, row);
-        return now.isFrozenNext(column, row, around, book.freezesBy(breath), book.staysBy(breath));
+        return now.isFrozenNext(column, row, book.freezesBy(breath), book.staysBy(breath));
     }
 
     public int frozenInRow(int row) throws IndexOutOfBoundsException {
@@ -205,7 +206,7 @@ public final class FrostPane {
     public int comesAgainIn() {
         ahead.becomeLike(now);
         for (int passed = 1; passed <= FORESIGHT; passed++) {
-            stepTimes(ahead, breath, 1);
+            ahead.step(book.freezesBy(breath), book.staysBy(breath));
             if (ahead.isLike(now)) {
                 return passed;
             }
@@ -231,7 +232,7 @@ public final class FrostPane {
         int peak = 0;
         int most = ahead.countFrost();
         for (int passed = 1; passed <= generations; passed++) {
-            stepTimes(ahead, breath, 1);
+            ahead.step(book.freezesBy(breath), book.staysBy(breath));
             int count = ahead.countFrost();
             if (count > most) {
                 most = count;
@@ -302,19 +303,10 @@ public final class FrostPane {
 
     private int frostBehind(int generations, int rule) {
         ahead.becomeLike(now);
-        stepTimes(ahead, rule, generations);
+        for (int passed = 0; passed < generations; passed++) {
+            ahead.step(book.freezesBy(rule), book.staysBy(rule));
+        }
         return ahead.countFrost();
-    }
-
-    private void stepTimes(Pane pane, int rule, int times) {
-        if (pane == null) {
-            return;
-        }
-        int freezes = book.freezesBy(rule);
-        int stays = book.staysBy(rule);
-        for (int i = 0; i < times; i++) {
-            pane.step(freezes, stays);
-        }
     }
 
     private void requireCell(int column, int row) throws IndexOutOfBoundsException {
@@ -476,12 +468,8 @@ public final class FrostPane {
             return countIn(framed(row - 1), framed(row), framed(row + 1), column);
         }
 
-        boolean isFrozenNext(int column, int row, int around, int freezes, int stays) {
-            if (meltOf(column, row) > 0) {
-                return false;
-            }
-            int counts = hasFrost(column, row) ? stays : freezes;
-            return ((counts >> around) & 1) == 1;
+        boolean isFrozenNext(int column, int row, int freezes, int stays) {
+            return ((grownRow(row, freezes, stays) >> column) & 1) == 1;
         }
 
         /** Answers whether a cell froze or thawed. */
@@ -516,14 +504,16 @@ public final class FrostPane {
             int below = framed(row + 1);
             int grown = 0;
             for (int column = 0; column < columns; column++) {
-                if (isFrozenNext(column, row, countIn(above, here, below, column), freezes, stays)) {
+                int counts = hasFrost(column, row) ? stays : freezes;
+                int around = countIn(above, here, below, column);
+                if (meltOf(column, row) == 0 && ((counts >> around) & 1) == 1) {
                     grown |= 1 << column;
                 }
             }
             return grown;
         }
 
-        // With the frame before bit 0, the cells around a column stand in the bits column to column + 2.
+        // With the frame in bit 0, what is around a column stands in the bits column to column + 2.
         private static int countIn(int above, int here, int below, int column) {
             return Integer.bitCount((above >> column) & THREE_CELLS)
                     + Integer.bitCount((here >> column) & BOTH_SIDES)

@@ -432,6 +432,20 @@ public final class FrostPaneTest {
         framed.setFrame(1);
         check.same("willFreeze(0, 4), a frozen frame", framed.willFreeze(0, 4), true);
         check.same("willFreeze(0, 0), a frozen frame", framed.willFreeze(0, 0), false);
+        FrostPane wide = paneOf("#....", "#....", "#....", "....#");
+        check.same("willFreeze(1, 1)", wide.willFreeze(1, 1), true);
+        check.same("willFreeze(4, 3)", wide.willFreeze(4, 3), false);
+        check.same("willFreeze(1, 2)", wide.willFreeze(1, 2), false);
+        check.same("willFreeze(2, 1)", wide.willFreeze(2, 1), false);
+        FrostPane thumbed = filled(6, 5);
+        thumbed.breathe(thumbed.addRule(511, 511));
+        thumbed.press(4, 1, 2);
+        for (int row = 0; row < 5; row++) {
+            for (int column = 0; column < 6; column++) {
+                boolean pressed = Math.abs(column - 4) + Math.abs(row - 1) <= 1;
+                check.same("willFreeze, a thumb at (4, 1)", thumbed.willFreeze(column, row), !pressed);
+            }
+        }
         noSuchCell("willFreeze", (y, column, row) -> y.willFreeze(column, row));
     }
 
@@ -492,6 +506,11 @@ public final class FrostPaneTest {
         FrostPane upward = paneOf("#.#.#.#.#.#.", "#.#.#.#.#.#.", "#.#.#.#.#.#.", "############");
         check.same("flowers(), a comb", upward.flowers(), 1);
         check.same("flowerAt(10, 0), a comb", upward.flowerAt(10, 0), 30);
+        check.same("largestFlower(), in the corner", frozenAlone(3, 5, 0, 0).largestFlower(), 1);
+        check.same("largestFlower(), in the last corner", frozenAlone(3, 5, 2, 4).largestFlower(), 1);
+        check.same("largestFlower(), in the first column", paneOf("#....", "#....", "...##", "#....").largestFlower(), 2);
+        check.same("largestFlower(), 12 in the last row", paneOf("#...........", "............", "############").largestFlower(), 12);
+        check.same("flowers(), in the corners", paneOf("#...#", ".....", "#...#").flowers(), 4);
         FrostPane board = paneOf("#.#", ".#.", "#.#");
         check.same("flowers(), a board", board.flowers(), 5);
         check.same("largestFlower(), all frozen", filled(12, 12).largestFlower(), 144);
@@ -636,6 +655,12 @@ public final class FrostPaneTest {
         check.same("digest(), all in use", busy().digest(), digestByAnswers(busy()));
         check.same("digest(), a full pane", filled(12, 12).digest(), digestByAnswers(filled(12, 12)));
         check.same("digest(), a glider", glider(10).digest(), digestByAnswers(glider(10)));
+        FrostPane odd = new FrostPane();
+        odd.addRule(511, 0);
+        check.same("bestBreath(5), not as (4) or (6)", odd.bestBreath(5), 1);
+        check.same("bestBreath(4)", odd.bestBreath(4), 0);
+        check.same("bestBreath(6)", odd.bestBreath(6), 0);
+        check.same("digest(), the breath of 5 generations", odd.digest(), digestByAnswers(odd));
         check.same("digest(), far from others", new FrostPane().digest() == busy().digest(), false);
     }
 
