@@ -1,6 +1,11 @@
+import java.util.function.Supplier;
+
 /** Compares answers with what is due, tells those that differ, and ends the test run by its exit code. */
 final class Check {
     private final String name;
+    private String sentence = "";
+    private int sentences;
+    private int answersBefore;
     private int answers;
     private int wrong;
 
@@ -8,59 +13,86 @@ final class Check {
         this.name = name;
     }
 
+    interface Call {
+        Object on(FrostPane pane);
+    }
+
+    /** Names the sentence of the document that the answers from now on are a test of. */
+    void sentence(String text) {
+        endSentence();
+        sentence = text;
+        sentences++;
+        answersBefore = answers;
+    }
+
     void same(String call, long got, long due) {
-        answers++;
-        if (got != due) {
-            tell(call + " answered " + got + ", due is " + due);
-        }
+        judge(call, String.valueOf(got), String.valueOf(due));
     }
 
     void same(String call, boolean got, boolean due) {
-        answers++;
-        if (got != due) {
-            tell(call + " answered " + got + ", due is " + due);
-        }
+        judge(call, String.valueOf(got), String.valueOf(due));
     }
 
     void same(String call, double got, double due) {
-        answers++;
-        if (Double.compare(got, due) != 0) {
-            tell(call + " answered " + got + ", due is " + due);
-        }
+        judge(call, String.valueOf(got), String.valueOf(due));
     }
 
     void same(String call, String got, String due) {
-        answers++;
-        if (!got.equals(due)) {
-            tell(call + " answered " + got + ", due is " + due);
-        }
+        judge(call, got, due);
     }
 
-    /** The exception must be of just this class: one that the machine throws is of a class below. */
-    void fails(String call, Class<? extends RuntimeException> due, Runnable run) {
-        answers++;
-        try {
-            run.run();
-        } catch (RuntimeException e) {
-            if (e.getClass() != due) {
-                tell(call + " threw " + e.getClass().getName() + ", due is " + due.getName());
-            }
-            return;
-        }
-        tell(call + " threw nothing, due is " + due.getName());
+    void takes(String call, FrostPane pane, Call run) {
+        judge(call, outcome(pane, run), "nothing");
+    }
+
+    void refuses(String call, Class<? extends RuntimeException> due, Supplier<FrostPane> maker, Call run) {
+        FrostPane pane = maker.get();
+        judge(call, outcome(pane, run), due.getName());
+        same("all there is behind " + call, Panes.all(pane), Panes.all(maker.get()));
+    }
+
+    void changesNothing(String call, Supplier<FrostPane> maker, Call run) {
+        FrostPane pane = maker.get();
+        takes(call, pane, run);
+        same("all there is behind " + call, Panes.all(pane), Panes.all(maker.get()));
     }
 
     void end() {
-        System.out.println(name + ": " + answers + " answers, " + wrong + " wrong");
+        endSentence();
+        String of = sentences > 0 ? " of " + sentences + " sentences" : "";
+        System.out.println(name + ": " + answers + " answers" + of + ", " + wrong + " wrong");
         if (wrong != 0 || answers == 0) {
             System.exit(1);
+        }
+    }
+
+    /** The name of just this class: an exception that the machine throws is of a class below the document's. */
+    private static String outcome(FrostPane pane, Call run) {
+        try {
+            run.on(pane);
+        } catch (RuntimeException e) {
+            return e.getClass().getName();
+        }
+        return "nothing";
+    }
+
+    private void judge(String call, String got, String due) {
+        answers++;
+        if (!got.equals(due)) {
+            tell(call + ": " + got + ", due is " + due);
+        }
+    }
+
+    private void endSentence() {
+        if (sentences > 0 && answers == answersBefore) {
+            tell("no answer is a test of it");
         }
     }
 
     private void tell(String text) {
         wrong++;
         if (wrong <= 20) {
-            System.out.println(name + ": " + text);
+            System.out.println(name + ": " + (sentence.isEmpty() ? "" : "[" + sentence + "] ") + text);
         }
     }
 }
