@@ -310,6 +310,12 @@ public final class EdgesOfTermsTest {
         check.same("flowerAt(0, 0)", Panes.filled(12, 12).flowerAt(0, 0), 144);
         check.same("flowerAt(0, 0), a long way round", Panes.of("#####", "....#", "#####", "#....", "#####").flowerAt(0, 0), 17);
         check.same("flowerAt(4, 4), a long way round", Panes.of("#####", "....#", "#####", "#....", "#####").flowerAt(4, 4), 17);
+        check.same("flowers(), the longest way", Panes.snake().flowers(), 1);
+        check.same("flowerAt(0, 0), from its one end", Panes.snake().flowerAt(0, 0), 78);
+        check.same("flowerAt(0, 11), from its other end", Panes.snake().flowerAt(0, 11), 78);
+        check.same("flowers(), the longest way, by columns", Panes.standingSnake().flowers(), 1);
+        check.same("flowerAt(0, 0), from its one end", Panes.standingSnake().flowerAt(0, 0), 78);
+        check.same("flowerAt(11, 0), from its other end", Panes.standingSnake().flowerAt(11, 0), 78);
 
         check.sentence("The frame does not matter in this");
         for (int frame = 0; frame <= 2; frame++) {

@@ -46,12 +46,12 @@ public final class EdgesOfWhatIsTest {
             check.same("generation() behind grow(" + generations + ")", x.generation(), before + generations);
         }
 
-        check.sentence("11: the generation: as great as 510 calls of grow(60) make it");
+        check.sentence("An object is used for at most 512 calls: 11, the generation, as the last of them");
         FrostPane old = new FrostPane();
-        for (int call = 0; call < 510; call++) {
+        for (int call = 1; call < 512; call++) {
             old.grow(60);
         }
-        check.same("generation()", old.generation(), 30600);
+        check.same("generation()", old.generation(), 511 * 60);
     }
 
     private void promises12And13Rules() {
@@ -103,6 +103,12 @@ public final class EdgesOfWhatIsTest {
         check.same("melted() behind 1", Panes.grown(x, 1).melted(), 4);
         check.same("melted() behind 8", Panes.grown(x, 7).melted(), 4);
         check.same("melted() behind 9", Panes.grown(x, 1).melted(), 0);
+
+        check.sentence("15: how many cells are melted: one alone, at each place");
+        for (int cell = 0; cell < 36; cell++) {
+            check.same("melted()", Panes.meltedAlone(12, 3, cell % 12, cell / 12).melted(), 1);
+            check.same("melted()", Panes.meltedAlone(3, 12, cell % 3, cell / 3).melted(), 1);
+        }
 
         check.sentence("15: how many cells are melted: at the corner of the largest pane");
         check.same("melted()", Panes.pressed(Panes.clear(12, 12), 11, 11, 1).melted(), 3);
@@ -256,9 +262,20 @@ public final class EdgesOfWhatIsTest {
         check.same("flowers() of 3 by 3", board(3).flowers(), 5);
         check.same("flowers() of 12 by 12", board(12).flowers(), 72);
 
+        check.sentence("21: how many flowers there are: one alone, at each place");
+        for (int[] size : new int[][] {{3, 12}, {12, 3}, {4, 4}}) {
+            for (int cell = 0; cell < size[0] * size[1]; cell++) {
+                check.same("flowers()", aloneAt(cell, size).flowers(), 1);
+            }
+        }
+
         check.sentence("21: how many flowers there are: at the corners and sides");
         check.same("flowers()", Panes.of("#.#.#", ".....", "#...#", ".....", "#.#.#").flowers(), 8);
         check.same("flowers(), all along the sides", Panes.of("#####", "#...#", "#.#.#", "#...#", "#####").flowers(), 2);
+    }
+
+    private static FrostPane aloneAt(int cell, int[] size) {
+        return Panes.alone(size[0], size[1], cell % size[0], cell / size[0]);
     }
 
     private static FrostPane board(int side) {
@@ -281,6 +298,13 @@ public final class EdgesOfWhatIsTest {
         check.same("largestFlower(), many alone", board(12).largestFlower(), 1);
         check.same("largestFlower() of 3 by 3", Panes.filled(3, 3).largestFlower(), 9);
         check.same("largestFlower() of 12 by 12", Panes.filled(12, 12).largestFlower(), 144);
+
+        check.sentence("22: the largest flower: one alone, at each place");
+        for (int[] size : new int[][] {{3, 12}, {12, 3}, {4, 4}}) {
+            for (int cell = 0; cell < size[0] * size[1]; cell++) {
+                check.same("largestFlower()", aloneAt(cell, size).largestFlower(), 1);
+            }
+        }
 
         check.sentence("22: the largest flower: the first, the last, one of several");
         check.same("largestFlower(), the first", Panes.of("###.", "....", "#..#").largestFlower(), 3);
@@ -336,6 +360,10 @@ public final class EdgesOfWhatIsTest {
         check.same("isMirrored(), the first row not", Panes.of("#..", "#.#", "#.#").isMirrored(), false);
         check.same("isMirrored(), the last row not", Panes.of("#.#", "#.#", "..#").isMirrored(), false);
         check.same("isMirrored(), 12 rows, the last not", Panes.alone(3, 12, 2, 11).isMirrored(), false);
+
+        check.sentence("24: is frozen: whatever is melted");
+        check.same("isMirrored(), nothing frozen", Panes.meltedAlone(3, 3, 0, 0).isMirrored(), true);
+        check.same("isMirrored(), one frozen", Panes.pressed(Panes.alone(4, 3, 0, 2), 3, 0, 9).isMirrored(), false);
 
         check.sentence("24: of its row: not of its column, and not of another row");
         check.same("isMirrored(), by columns only", Panes.of("#..", "##.", "#..").isMirrored(), false);

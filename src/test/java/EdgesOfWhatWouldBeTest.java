@@ -93,6 +93,18 @@ public final class EdgesOfWhatWouldBeTest {
             check.same("comesAgainIn(), no more melted", Panes.grown(melted, generations).comesAgainIn(), 1);
         }
 
+        check.sentence("26: melted ones for as long: all of them, one alone at each place");
+        for (int cell = 0; cell < 36; cell++) {
+            check.same("comesAgainIn(), 12 by 3", Panes.meltedAlone(12, 3, cell % 12, cell / 12).comesAgainIn(), -1);
+            check.same("comesAgainIn(), 3 by 12", Panes.meltedAlone(3, 12, cell % 3, cell / 3).comesAgainIn(), -1);
+        }
+
+        check.sentence("26: frozen ones: all of them, one alone at each place");
+        for (int cell = 0; cell < 36; cell++) {
+            check.same("comesAgainIn(), 12 by 3", Panes.alone(12, 3, cell % 12, cell / 12).comesAgainIn(), -1);
+            check.same("comesAgainIn(), 3 by 12", Panes.alone(3, 12, cell % 3, cell / 3).comesAgainIn(), -1);
+        }
+
         check.sentence("26: (nothing is changed)");
         check.changesNothing("comesAgainIn()", Panes::busy, FrostPane::comesAgainIn);
         check.changesNothing("comesAgainIn(), 40", () -> Panes.glider(10), FrostPane::comesAgainIn);
@@ -148,6 +160,18 @@ public final class EdgesOfWhatWouldBeTest {
         for (int generations = 1; generations <= 9; generations++) {
             FrostPane clear = Panes.pressed(new FrostPane(), 7, 7, generations);
             check.same("standsStillIn(), melted for " + generations, clear.standsStillIn(), generations);
+        }
+
+        check.sentence("27: without melted cells: not one alone, at each place");
+        for (int cell = 0; cell < 36; cell++) {
+            check.same("standsStillIn(), 12 by 3", Panes.meltedAlone(12, 3, cell % 12, cell / 12).standsStillIn(), 8);
+            check.same("standsStillIn(), 3 by 12", Panes.meltedAlone(3, 12, cell % 3, cell / 3).standsStillIn(), 8);
+        }
+
+        check.sentence("27: all is as it stays: one alone that thaws, at each place");
+        for (int cell = 0; cell < 36; cell++) {
+            check.same("standsStillIn(), 12 by 3", Panes.alone(12, 3, cell % 12, cell / 12).standsStillIn(), 1);
+            check.same("standsStillIn(), 3 by 12", Panes.alone(3, 12, cell % 3, cell / 3).standsStillIn(), 1);
         }
 
         check.sentence("27: all is as it stays from then on: not if a cell freezes when it is melted no more");
@@ -307,6 +331,14 @@ public final class EdgesOfWhatWouldBeTest {
         check.same("digest() of a new object", new FrostPane().digest(), digestOf(Panes.clear(8, 8)));
         check.same("numbers beyond 64 bits", wholeDigest(Panes.clear(8, 8)).bitLength() > 64, true);
 
+        check.sentence("An object is used for at most 512 calls: 31, the same digest each time");
+        FrostPane asked = Panes.clear(12, 12);
+        long due = digestOf(Panes.clear(12, 9));
+        asked.lay(12, 9);
+        for (int call = 3; call <= 512; call++) {
+            check.same("digest(), the call " + call, asked.digest(), due);
+        }
+
         check.sentence("31: nothing is changed by it");
         check.changesNothing("digest()", Panes::busy, FrostPane::digest);
         check.changesNothing("digest(), six rules", Panes::sixRules, FrostPane::digest);
@@ -325,14 +357,16 @@ public final class EdgesOfWhatWouldBeTest {
     /** The checksum by the answers of the other calls, in numbers that have no end, before it wraps around. */
     private static BigInteger wholeDigest(FrostPane x) {
         BigInteger d = BigInteger.valueOf(2203);
-        int[] first = {x.columns(), x.rows(), x.generation(), x.rules(), x.breath(), x.frozen(), x.melted(),
+        int columns = x.columns();
+        int rows = x.rows();
+        int[] first = {columns, rows, x.generation(), x.rules(), x.breath(), x.frozen(), x.melted(),
             x.flowers(), x.largestFlower(), x.isMirrored() ? 1 : 0, x.comesAgainIn(), x.standsStillIn(), x.bestBreath(5)};
         for (int number : first) {
             d = mixed(d, number);
         }
-        for (int row = 0; row < x.rows(); row++) {
+        for (int row = 0; row < rows; row++) {
             d = mixed(d, x.frozenInRow(row));
-            for (int column = 0; column < x.columns(); column++) {
+            for (int column = 0; column < columns; column++) {
                 d = mixed(d, x.isFrozen(column, row) ? 1 : 0);
                 d = mixed(d, x.meltedFor(column, row));
                 d = mixed(d, x.around(column, row));

@@ -219,9 +219,7 @@ public final class FrostPaneTest {
     }
 
     private void windingFlowers() {
-        FrostPane snake = Panes.of(
-                "############", "...........#", "############", "#...........", "############", "...........#",
-                "############", "#...........", "############", "...........#", "############", "#...........");
+        FrostPane snake = Panes.snake();
         check.same("flowers(), a snake", snake.flowers(), 1);
         check.same("largestFlower(), a snake", snake.largestFlower(), 78);
         check.same("flowerAt(0, 0), a snake", snake.flowerAt(0, 0), 78);

@@ -104,6 +104,31 @@ final class Panes {
         return x;
     }
 
+    /** Just this cell melted, for 8 generations: the thumbs askew to it end what one on it has melted beside it. */
+    static FrostPane meltedAlone(int columns, int rows, int column, int row) {
+        FrostPane x = pressed(clear(columns, rows), column, row, 9);
+        for (int side = 0; side < 4; side++) {
+            int besideColumn = column + (side % 2 == 0 ? 1 : -1);
+            int besideRow = row + (side / 2 == 0 ? 1 : -1);
+            if (besideColumn >= 0 && besideColumn < columns && besideRow >= 0 && besideRow < rows) {
+                x.press(besideColumn, besideRow, 1);
+            }
+        }
+        return grown(x, 1);
+    }
+
+    /** One flower of 78 cells, which are one way from its first row to its last. */
+    static FrostPane snake() {
+        return of("############", "...........#", "############", "#...........", "############", "...........#",
+                "############", "#...........", "############", "...........#", "############", "#...........");
+    }
+
+    /** The same way, from its first column to its last. */
+    static FrostPane standingSnake() {
+        return of("#.###.###.##", "#.#.#.#.#.#.", "#.#.#.#.#.#.", "#.#.#.#.#.#.", "#.#.#.#.#.#.", "#.#.#.#.#.#.",
+                "#.#.#.#.#.#.", "#.#.#.#.#.#.", "#.#.#.#.#.#.", "#.#.#.#.#.#.", "#.#.#.#.#.#.", "###.###.###.");
+    }
+
     static FrostPane grown(FrostPane x, int generations) {
         x.grow(generations);
         return x;
