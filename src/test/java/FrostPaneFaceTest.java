@@ -1,57 +1,37 @@
+import java.io.IOException;
 import java.lang.reflect.Constructor;
 import java.lang.reflect.Field;
 import java.lang.reflect.Method;
 import java.lang.reflect.Modifier;
+import java.nio.file.Files;
+import java.nio.file.Path;
+import java.util.ArrayList;
 import java.util.Arrays;
+import java.util.List;
 import java.util.Set;
 import java.util.TreeSet;
+import java.util.regex.Matcher;
+import java.util.regex.Pattern;
 import java.util.stream.Collectors;
 
 /** The public face is that of the document, and there is no other member that is not private. */
 public final class FrostPaneFaceTest {
-    private static final String[] FACE = {
-        "int lay(int, int) IllegalArgumentException",
-        "boolean turn(int, int) IndexOutOfBoundsException, IllegalStateException",
-        "int press(int, int, int) IndexOutOfBoundsException, IllegalArgumentException",
-        "int setFrame(int) IllegalArgumentException",
-        "int addRule(int, int) IllegalArgumentException, IllegalStateException",
-        "int breathe(int) IndexOutOfBoundsException",
-        "int grow(int) IllegalArgumentException",
-        "int columns() ",
-        "int rows() ",
-        "int generation() ",
-        "int rules() ",
-        "int breath() ",
-        "int frozen() ",
-        "int melted() ",
-        "boolean isFrozen(int, int) IndexOutOfBoundsException",
-        "int meltedFor(int, int) IndexOutOfBoundsException",
-        "int around(int, int) IndexOutOfBoundsException",
-        "boolean willFreeze(int, int) IndexOutOfBoundsException",
-        "int frozenInRow(int) IndexOutOfBoundsException",
-        "int flowers() ",
-        "int largestFlower() ",
-        "int flowerAt(int, int) IndexOutOfBoundsException",
-        "boolean isMirrored() ",
-        "int frozenIn(int) IllegalArgumentException",
-        "int comesAgainIn() ",
-        "int standsStillIn() ",
-        "int peakIn(int) IllegalArgumentException",
-        "int bestBreath(int) IllegalArgumentException",
-        "double meanInRows() ",
-        "long digest() ",
-    };
+    private static final Path SOURCE = Path.of("src/main/java/FrostPane.java");
+    private static final Pattern PART = Pattern.compile("    // (---- .*)|    public \\w+ (\\w+)\\(.*");
 
     private final Check check = new Check("FrostPaneFaceTest");
 
-    public static void main(String[] args) {
+    public static void main(String[] args) throws Exception {
         FrostPaneFaceTest test = new FrostPaneFaceTest();
-        test.face();
+        test.face(Document.read().face());
+        test.headers(Document.read().face());
+        test.order(Document.read().order());
         test.members();
         test.check.end();
     }
 
-    private void face() {
+    private void face(List<String> due) {
+        check.same("methods read", due.size(), 30);
         Set<String> found = new TreeSet<>();
         for (Method method : FrostPane.class.getDeclaredMethods()) {
             if (Modifier.isPublic(method.getModifiers())) {
@@ -59,13 +39,39 @@ public final class FrostPaneFaceTest {
                         + Arrays.stream(method.getParameterTypes()).map(Class::getSimpleName)
                                 .collect(Collectors.joining(", ", "(", ")"))
                         + Arrays.stream(method.getExceptionTypes()).map(Class::getSimpleName)
-                                .collect(Collectors.joining(", ", " ", "")));
+                                .collect(Collectors.joining(", ", " throws ", "")).replaceFirst(" throws $", ""));
                 check.same(method + " is of an object", Modifier.isStatic(method.getModifiers()), false);
             }
         }
-        check.same("the face", found.toString(), new TreeSet<>(Arrays.asList(FACE)).toString());
+        Set<String> withoutNames = new TreeSet<>();
+        for (String method : due) {
+            withoutNames.add(method.replaceAll("(\\w+) [a-z]\\w*([,)])", "$1$2"));
+        }
+        check.same("the face", found.toString(), withoutNames.toString());
         check.same("final", Modifier.isFinal(FrostPane.class.getModifiers()), true);
         check.same("public", Modifier.isPublic(FrostPane.class.getModifiers()), true);
+    }
+
+    /** Parameters bear the document's names, too. */
+    private void headers(List<String> due) throws IOException {
+        String source = Files.readString(SOURCE).replaceAll("\\s+", " ");
+        check.same("public FrostPane()", source.contains(" public FrostPane() {"), true);
+        for (String method : due) {
+            check.same("public " + method, source.contains(" public " + method + " {"), true);
+        }
+    }
+
+    /** What the interface says ahead of some calls, and the calls, stand in the document's order. */
+    private void order(List<String> due) throws IOException {
+        List<String> found = new ArrayList<>();
+        for (String line : Files.readAllLines(SOURCE)) {
+            Matcher part = PART.matcher(line);
+            if (part.matches()) {
+                found.add(part.group(1) != null ? part.group(1) : part.group(2));
+            }
+        }
+        check.same("calls and headings read", due.size(), 35);
+        check.same("the order", String.join(" ", found), String.join(" ", due));
     }
 
     private void members() {
